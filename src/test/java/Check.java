@@ -1,5 +1,17 @@
-/** Counts answers that are not the due ones, and ends the program by that. */
+import java.io.IOException;
+import java.lang.reflect.InvocationTargetException;
+import java.lang.reflect.Method;
+import java.nio.file.Files;
+import java.nio.file.Path;
+import java.util.Arrays;
+import java.util.Comparator;
+
+/** Runs tests, counts answers that are not the due ones, and ends the program by that. */
 final class Check {
+    private static final Path DOCUMENT = Path.of("..", "shared", "DOC.md");
+
+    private static String test = "";
+    private static int tests = 0;
     private static int asked = 0;
     private static int wrong = 0;
 
@@ -9,33 +21,64 @@ final class Check {
     static void due(String call, long got, long want) {
         asked++;
         if (got != want) {
-            wrong++;
-            System.out.println(call + " answered " + got + ", due is " + want);
+            fails(call + " answered " + got + ", due is " + want);
         }
     }
 
-    static void type(AnchorWills x, String text) {
-        for (int i = 0; i < text.length(); i++) {
-            due("type(" + (int) text.charAt(i) + ") of \"" + text + "\"", x.type(text.charAt(i)), i + 1);
+    static void same(String what, String got, String want) {
+        asked++;
+        if (!got.equals(want)) {
+            fails(what + ":\n  " + got + "\n  due is\n  " + want);
         }
     }
 
-    /** A new object that has read a sound text. */
-    static AnchorWills town(String text) {
-        AnchorWills x = new AnchorWills();
-        reads(x, text);
-        return x;
+    private static void fails(String what) {
+        wrong++;
+        System.out.println(test + what);
     }
 
-    static void reads(AnchorWills x, String text) {
-        type(x, text);
-        int items = (int) text.chars().filter(c -> c == ';').count();
-        due("town() of \"" + text + "\"", x.town(), items);
+    /** Runs each method that bears words of the document, and looks for these in the document. */
+    static void all(Class<?> of) {
+        Method[] methods = of.getDeclaredMethods();
+        Arrays.sort(methods, Comparator.comparing(Method::getName));
+        for (Method method : methods) {
+            Says says = method.getAnnotation(Says.class);
+            if (says != null) {
+                test = of.getName() + "." + method.getName() + ": ";
+                tests++;
+                for (String words : says.value()) {
+                    isInDocument(words);
+                }
+                run(method);
+            }
+        }
+        test = "";
+        end();
+    }
+
+    private static void isInDocument(String words) {
+        try {
+            if (!Files.readString(DOCUMENT).replaceAll("\\s+", " ").contains(words)) {
+                fails("the document does not say: " + words);
+            }
+        } catch (IOException e) {
+            fails("no document: " + e);
+        }
+    }
+
+    private static void run(Method method) {
+        try {
+            method.invoke(null);
+        } catch (InvocationTargetException e) {
+            fails("ended by " + e.getCause());
+        } catch (IllegalAccessException e) {
+            fails("can't be run: " + e);
+        }
     }
 
     static void end() {
-        System.out.println(asked + " answers looked at, " + wrong + " wrong");
-        if (wrong != 0) {
+        System.out.println((tests > 0 ? tests + " tests, " : "") + asked + " answers looked at, " + wrong + " wrong");
+        if (wrong != 0 || asked == 0) {
             System.exit(1);
         }
     }
