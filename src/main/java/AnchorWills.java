@@ -60,7 +60,7 @@ public final class AnchorWills {
             return items;
         }
         told.becomes(draft);
-        now.becomes(draft.first);
+        now.becomes(told.first);
         past.known = 0;
         heard.known = 0;
         firstImage.isKept = false;

@@ -1,6 +1,6 @@
 /** Long rows of calls, the same each time, on the class and on the model. */
 public final class ModelTest {
-    private static final int OBJECTS = 1200, CALLS = 512;
+    private static final int OBJECTS = 1200, CALLS = 512, PLACES = 300;
     private static final int[] ODD = {-1, 100, 256, 1 << 30, Integer.MAX_VALUE, Integer.MIN_VALUE, -10, 10, 6, 8};
 
     private static long seed = 20261119;
@@ -8,6 +8,9 @@ public final class ModelTest {
     public static void main(String[] args) {
         for (int i = 0; i < OBJECTS; i++) {
             run(new AnchorWills(), new Model(), i);
+        }
+        for (int i = 0; i < PLACES; i++) {
+            places(new AnchorWills(), new Model(), i);
         }
         Check.end();
     }
@@ -90,6 +93,30 @@ public final class ModelTest {
             case 1 -> text.deleteCharAt(at);
             case 2 -> text.insert(at, others.charAt(upTo(others.length())));
             default -> text.setCharAt(at, others.charAt(upTo(others.length())));
+        }
+    }
+
+    /** Cells of many strengths, so that a way is found only by going back, or not at all. */
+    private static void places(AnchorWills x, Model y, int number) {
+        StringBuilder text = new StringBuilder();
+        item(text, "r", 0);
+        int anchors = 3 + upTo(6);
+        for (int a = 0; a < anchors; a++) {
+            item(text, "a", 0, upTo(10), 1 + upTo(4), 1 + upTo(20), 0);
+        }
+        for (int cell = 0; cell < 10 && text.length() < 188; cell++) {
+            item(text, "c", cell, 1 + upTo(9), upTo(4));
+        }
+        for (int i = 0; i < text.length(); i++) {
+            x.type(text.charAt(i));
+            y.type(text.charAt(i));
+        }
+        Check.due(number + " town of \"" + text + "\"", x.town(), y.town());
+        for (int f = 2; f < 26; f++) {
+            int set = (1 << anchors) - 1 & ~(1 << upTo(2 * anchors));
+            for (int a = 0; a < anchors; a++) {
+                Check.due(number + " place " + set + " " + f + " " + a, x.place(set, f, a), y.place(set, f, a));
+            }
         }
     }
 

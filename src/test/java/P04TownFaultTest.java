@@ -55,6 +55,7 @@ public final class P04TownFaultTest {
         fault(0, ";");
         fault(3, "r0;;");
         fault(2, "  7");
+        fault(0, (int) 'c' + " 0 1 1;");
         fault(3, "r0;0");
         fault(4, "r0; ;");
     }
@@ -63,6 +64,8 @@ public final class P04TownFaultTest {
     static void tokensInsideAnItem() {
         fault(1, "r;");
         fault(2, "r c");
+        fault(2, "r ab;");
+        fault(2, "c0cc 1;");
         fault(2, "r r0;");
         fault(3, "r0 0;");
         fault(2, "r0r0;");
@@ -170,6 +173,7 @@ public final class P04TownFaultTest {
         fault(2, "r0:");
         fault(2, "r0<");
         fault(2, "r0,");
+        fault(2, "r0" + (char) (';' + 128));
         fault(7, "c0 1 1;$");
         fault(9, "c0 1 1;  %;");
     }

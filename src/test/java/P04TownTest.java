@@ -129,6 +129,17 @@ public final class P04TownTest {
         x.row("now(*)", 3, 0, 0, 0, 0).due("anchor(2, 0)", Run.BAD).due("raft(2, 0)", Run.BAD);
     }
 
+    @Says("what is not told as at first")
+    static void readAnewNothingIsLeftOfALargerTown() {
+        Run x = Run.town("c0 1 3;r0;r0;r0;t0 1;t1 2;a2 9 9 60 99;a0 0 9 60 99;a0 0 9 60 99;a1 0 9 60 99;");
+        x.does("hauls(2, 0)", "year()", "wills(0, 2)", "dies(2)").reads("r0;a0 0 1 3 5;");
+        x.row("raft(0, *)", 0, 0, 0, 5, 1, 3).row("anchor(0, *)", 0, 0, 1, 3, 5, 0, 0, 3, 0).row("cell(0, *)", 3, 1, 1);
+        x.due("cell(9, 2)", 0).row("now(*)", 1, 0, 0, 0, 0).due("vital(0, 1)", 1).due("vital(0, 3)", 1).due("vital(0, 4)", 0);
+        x.due("fits()", 1).due("ask()", Run.NONE).due("wreck(9, 1, 0)", 1).due("place(1, 3, 0)", 0).due("year()", 1);
+        x.due("place(3, 3, 0)", Run.BAD).due("raft(1, 0)", Run.BAD).due("storms(4, 0)", 1).due("now(2)", 1);
+        x.reads("r0;r0;").row("raft(0, *)", 0, 0, 0, 0, 1, 0).row("raft(1, *)", 0, 0, 0, 0, 2, 0).due("now(0)", 0);
+    }
+
     @Says("nothing HEARD or to be UNDONE")
     static void readAnewNothingIsHeardOrToBeUndone() {
         Run x = Run.town("r0;a0 3 2 8 5;").does(6, "hears(99, 1)").does(11, "year()");

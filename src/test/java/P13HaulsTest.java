@@ -44,6 +44,13 @@ public final class P13HaulsTest {
         x.does("dies(1)").stays(Run.STATE, "hauls(0, 0)", "hauls(0, 1)");
     }
 
+    @Says("if no one that LIES in that CELL is another RAFT's by WHOSE")
+    static void whereTheFirstOrTheLastIsAnothers() {
+        Run.town("r0;r0;a1 1 1 1 5;a0 1 1 1 6;").stays(Run.STATE, "hauls(0, 1)", "hauls(1, 0)");
+        Run x = Run.town("r0;r0;" + "a0 3 1 1 2;".repeat(7) + "a1 3 1 1 3;").stays(Run.STATE, "hauls(0, 0)", "hauls(0, 6)");
+        x.stays(Run.STATE, "hauls(1, 7)").does("dies(1)").due("hauls(0, 0)", 2).due("hauls(0, 7)", 5);
+    }
+
     @Says("(NONE's may be)")
     static void whereNobodysLies() {
         Run x = Run.town(TOWN).does("dies(1)", "dies(2)").due("anchor(2, 8)", Run.NONE).due("anchor(1, 8)", 0);

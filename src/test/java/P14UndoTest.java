@@ -56,6 +56,22 @@ public final class P14UndoTest {
     }
 
     @Says("all is as ahead of it")
+    static void allOfSixRaftsAndEightAnchors() {
+        StringBuilder text = new StringBuilder("r0;r0;r1;r2;r3;r4;");
+        for (int a = 0; a < 8; a++) {
+            text.append("a").append(a % 6).append(" ").append(a + 1).append(" 1 ").append(20 + a).append(" ").append(50 + a).append(";");
+        }
+        Run x = Run.town(text.toString()).does("wills(0, 5)", "wills(5, 1)", "hauls(1, 7)", "hauls(0, 0)", "hauls(5, 5)");
+        x.does("dies(5)", "year()", "storms(7, 1)", "pays(6, 9)", "pays(1, -9)");
+        x.row("raft(*, 0)", 5, 0, 1, 2, 3, 1).row("raft(*, 1)", 0, 0, 0, 0, 0, 1).row("raft(*, 2)", 50, 57, 0, 0, 0, 55);
+        x.row("anchor(*, 1)", 1, 2, 3, 4, 5, 6, 7, 8).row("anchor(*, 3)", 20, 12, 22, 23, 24, 25, 35, 27);
+        x.row("anchor(*, 5)", 0, 1, 1, 1, 1, 0, 1, 0).row("anchor(*, 6)", 1, 0, 0, 0, 0, 1, 0, 1).does(10, "undo()");
+        x.row("raft(*, 0)", 0, 0, 1, 2, 3, 4).row("raft(*, 1)", 0, 0, 0, 0, 0, 0).row("raft(*, 2)", 0, 0, 0, 0, 0, 0);
+        x.row("anchor(*, 1)", 1, 2, 3, 4, 5, 6, 7, 8).row("anchor(*, 3)", 20, 21, 22, 23, 24, 25, 26, 27);
+        x.row("anchor(*, 5)", 0, 0, 0, 0, 0, 0, 0, 0).row("anchor(*, 6)", 0, 0, 0, 0, 0, 0, 0, 0);
+    }
+
+    @Says("all is as ahead of it")
     static void behindUndoneAnotherIsDone() {
         Run x = Run.town(TOWN).does("pays(0, 1)", "pays(0, 2)", "undo()", "pays(0, 3)").due("anchor(0, 3)", 24);
         x.due("undo()", 1).due("anchor(0, 3)", 21).due("undo()", 0).due("anchor(0, 3)", 20);

@@ -37,6 +37,7 @@ public final class P27KeepTest {
     static void whatIsDoneBehindItIsNotOfIt() {
         Run x = Run.town(TOWN).does("year()", "keep(0)").does("undo()", "pays(0, 5)", "pays(0, 4)").due("back(0)", 3);
         x.due("anchor(0, 5)", 1).due("anchor(0, 3)", 10).due("count(4)", 1).due("undo()", 0).due("anchor(0, 5)", 0);
+        x.due("anchor(0, 3)", 10).due("anchor(1, 1)", 9);
     }
 
     @Says("IMAGES 0, 1 keep NOW")

@@ -20,7 +20,7 @@ public final class P28BackTest {
     @Says("what may be UNDONE")
     static void whatMayBeUndone() {
         Run x = Run.town(TOWN).does("wills(0, 1)").does(10, "pays(0, 1)").does("keep(0)").does(7, "undo()").does(3, "year()");
-        x.due("count(4)", 6).due("back(0)", 7).due("count(4)", 10);
+        x.due("count(4)", 6).due("back(0)", 7).due("count(4)", 10).does(7, "undo()").does(9, "year()").due("back(0)", 7);
         for (int i = 9; i >= 0; i--) {
             x.due("undo()", i).due("anchor(0, 3)", 10 + i).due("anchor(0, 5)", 0);
         }
