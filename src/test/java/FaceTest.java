@@ -1,26 +1,33 @@
+import java.io.IOException;
 import java.lang.reflect.Constructor;
 import java.lang.reflect.Field;
 import java.lang.reflect.Method;
 import java.lang.reflect.Modifier;
+import java.nio.file.Files;
+import java.nio.file.Path;
 import java.util.Arrays;
+import java.util.List;
 import java.util.Set;
 import java.util.TreeSet;
+import java.util.regex.MatchResult;
+import java.util.regex.Matcher;
+import java.util.regex.Pattern;
 import java.util.stream.Collectors;
 
 /** The public face as the document writes it, and no more of it; promise 1. */
 public final class FaceTest {
-    private static final String[] METHODS = {
-        "int type(int)", "int clear()", "int town()", "int cell(int,int)", "int raft(int,int)", "int anchor(int,int)",
-        "int storms(int,int)", "int pays(int,int)", "int dies(int)", "int wills(int,int)", "int year()",
-        "int hauls(int,int)", "int undo()", "int now(int)", "int needs(int,int)", "int after(int,int,int)",
-        "int wreck(int,int,int)", "int place(int,int,int)", "int vital(int,int)", "int odds(int,int,int,int)",
-        "int hears(int,int)", "int forget()", "int fits()", "int ask()", "int mark(int,int)", "int keep(int)",
-        "int back(int)", "int count(int)", "long trace()"};
+    private static final Path DOCUMENT = Path.of("..", "shared", "DOC.md");
+    private static final Path MAIN = Path.of("src", "main", "java", "AnchorWills.java");
 
-    public static void main(String[] args) {
+    private static String document;
+
+    public static void main(String[] args) throws IOException {
+        document = Files.readString(DOCUMENT).replaceAll("\\s+", " ");
         constants();
         members();
         insideClasses();
+        promises();
+        headings();
         newObject();
         Check.end();
     }
@@ -42,7 +49,11 @@ public final class FaceTest {
                 Check.due(method + " is public", Modifier.isPublic(method.getModifiers()) ? 1 : 0, 1);
             }
         }
-        Set<String> told = new TreeSet<>(Arrays.asList(METHODS));
+        Set<String> told = new TreeSet<>();
+        for (String line : told("public (?:int|long) [a-z]+\\([a-z, ]*\\);")) {
+            told.add(line.replaceAll("public |;|(?<=int) [a-z]+(?=[,)])|(?<=,) ", ""));
+        }
+        Check.due("methods that the document tells", told.size(), 29);
         Check.due("methods " + seen, seen.equals(told) ? 1 : 0, 1);
         Set<String> open = new TreeSet<>();
         for (Field field : AnchorWills.class.getDeclaredFields()) {
@@ -58,6 +69,39 @@ public final class FaceTest {
         Check.due("constructor is public", Modifier.isPublic(makers[0].getModifiers()) ? 1 : 0, 1);
         Check.due("constructor takes", makers[0].getParameterCount(), 0);
         Check.due("class is final", Modifier.isFinal(AnchorWills.class.getModifiers()) ? 1 : 0, 1);
+    }
+
+    private static List<String> told(String words) {
+        return Pattern.compile(words).matcher(document).results().map(MatchResult::group).toList();
+    }
+
+    /** The document tells each call twice, and each time alike; the class writes them so, in that order. */
+    private static void promises() throws IOException {
+        List<String> face = told("(?<=public )(int|long) [a-z]+\\([a-z, ]*\\)(?=;)");
+        List<String> calls = told("(?<=`)(int|long) [a-z]+\\([a-z, ]*\\)(?=`: )");
+        Check.same("calls of the promises", calls.toString(), face.toString());
+        List<String> written = Pattern.compile("(?m)(?<=^    public )(int|long) [a-z]+\\([a-z, ]*\\)(?= \\{)")
+            .matcher(Files.readString(MAIN)).results().map(MatchResult::group).toList();
+        Check.same("calls of the class", written.toString(), face.toString());
+        for (int n = 0; n < calls.size(); n++) {
+            String name = calls.get(n).replaceAll("^[a-z]+ |\\(.*", "");
+            Check.due("Promise of " + name, document.contains("## Promise " + (n + 2) + ": " + name + " `" + calls.get(n)) ? 1 : 0, 1);
+        }
+    }
+
+    /** What the interface says ahead of calls stands ahead of them in the class, too, and the calls in their order. */
+    private static void headings() throws IOException {
+        StringBuilder told = new StringBuilder();
+        Matcher sentence = Pattern.compile("Ahead of the calls ([^-.]*) the interface says: ---- ([^.]*)\\.").matcher(document);
+        while (sentence.find()) {
+            told.append("// ---- ").append(sentence.group(2)).append(' ').append(sentence.group(1).replaceAll("[`,]", "")).append(' ');
+        }
+        StringBuilder written = new StringBuilder();
+        Matcher line = Pattern.compile("(?m)^    (?:public (?:int|long) ([a-z]+)\\(|(// ---- .*)$)").matcher(Files.readString(MAIN));
+        while (line.find()) {
+            written.append(line.group(1) == null ? line.group(2) : line.group(1)).append(' ');
+        }
+        Check.same("headings and calls", written.toString(), told.toString());
     }
 
     private static void insideClasses() {

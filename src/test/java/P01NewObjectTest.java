@@ -47,4 +47,12 @@ public final class P01NewObjectTest {
         y.due("trace()", 0).due("count(1)", 0).due("count(3)", 0).due("count(5)", 0).due("cell(3, 0)", 3);
         y.due("back(0)", Run.STATE);
     }
+
+    @Says("An object is used for at most 512 calls after it has been made; what later calls answer is free.")
+    static void the512thCallAnswers() {
+        new Run().does(511, "year()").due("undo()", 9);
+        new Run().does(511, "type(32)").due("clear()", 200);
+        Run x = Run.town("r0;a0 0 1 1 9;").does(512 - 1 - 16, "mark(5, 0)");
+        x.due("trace()", 495 * 100001L);
+    }
 }

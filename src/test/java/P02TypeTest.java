@@ -48,4 +48,17 @@ public final class P02TypeTest {
     static void fullChangesNothing() {
         new Run().types("r0;" + " ".repeat(197)).stays(Run.FULL, "type(59)", "type(0)");
     }
+
+    @Says("They are a text (200 bytes at most), read byte by byte,")
+    static void bytesAreOneTextWhateverIsCalledBetween() {
+        Run x = new Run().types("c9").due("count(5)", 2).types(" 9").due("year()", 0).types(" 3").due("town()", -16).types(";");
+        x.types("r").due("undo()", 0).types("0;a").does("forget()", "keep(0)").types("0 9 1 5").due("cell(9, 0)", 3);
+        x.types("7 1").does("back(0)", "mark(0, 0)", "type(256)", "town()").types("0;").due("town()", 3);
+        x.row("anchor(0, *)", 0, 9, 1, 57, 10).row("cell(9, *)", 9, 3, 1);
+    }
+
+    @Says("BAD; FULL.")
+    static void badOfAnEmptyAndFullOfAFullText() {
+        new Run().stays(Run.BAD, "type(256)").types(" ".repeat(200)).stays(Run.FULL, "type(255)").stays(Run.BAD, "type(256)");
+    }
 }

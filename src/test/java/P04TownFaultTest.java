@@ -285,4 +285,38 @@ public final class P04TownFaultTest {
         fault(200, " ".repeat(199) + "t");
         fault(200, "c1 1 1;".repeat(28) + "r0  ");
     }
+
+    @Says("ITEMS (none, too), each letters and what is told, ended by ; :")
+    static void eachItemIsEndedByItsSign() {
+        String[] items = {"c1 2 3", "r0", "a0 1 1 1 1", "t0 1"};
+        for (String item : items) {
+            for (String next : items) {
+                Run.town("r0;r0;" + item + ";" + next + ";").due("count(5)", 0);
+                fault(6 + item.length(), "r0;r0;" + item + next + ";");
+                fault(7 + item.length(), "r0;r0;" + item + " " + next + ";");
+            }
+            fault(6 + item.length(), "r0;r0;" + item);
+        }
+    }
+
+    /** Each on an object of its own, so that what a faulty text has told can be seen in no answer. */
+    @Says("-10 less FAULT: nothing changes (THE TEXT, too, stays).")
+    static void everyAnswerIsAsWithoutAFaultyText() {
+        String town = "c3 4 2;c9 1 3;r0;r0;r1;a0 3 2 8 5;a1 9 9 9 9;a2 3 1 7 3;t0 1;";
+        String[] faulty = {"c3 9 0;c9 9 0;r0;r1;a0 1 1 60 1;x", "r0;r0;r0;r0;t2 3;t0 2;a3 3 9 60 99;a3 3 9 60 99;a3 9 9 9 9;a3 3 9 9 9;a"};
+        String[] calls = {"cell(3, 0)", "cell(3, 1)", "cell(3, 2)", "cell(9, 2)", "raft(0, 0)", "raft(2, 3)", "raft(0, 4)",
+            "raft(0, 5)", "raft(3, 0)", "anchor(2, 0)", "anchor(2, 1)", "anchor(0, 2)", "anchor(2, 3)", "anchor(1, 4)",
+            "anchor(0, 7)", "anchor(1, 7)", "anchor(2, 8)", "anchor(3, 0)", "storms(9, 1)", "storms(46, 1)", "pays(2, 1)", "dies(2)",
+            "dies(3)", "wills(2, 0)", "wills(0, 3)", "year()", "hauls(0, 0)", "hauls(1, 1)", "hauls(3, 3)", "now(0)", "now(4)",
+            "needs(2, 9)", "needs(0, 99)", "after(0, 12, 1)", "after(1, 46, 0)", "wreck(99, 4, 0)", "wreck(99, 4, 1)", "wreck(13, 4, 0)",
+            "place(7, 4, 0)", "place(7, 4, 1)", "place(7, 4, 2)", "place(2, 36, 1)", "place(8, 1, 3)", "vital(0, 50)", "vital(2, 4)",
+            "odds(0, 60, 2, 0)", "odds(1, 99, 4, 1)", "fits()", "ask()", "mark(0, 0)", "mark(1, 2)", "mark(2, 1)", "mark(5, 2)",
+            "keep(1)", "count(0)", "count(1)", "count(2)", "trace()"};
+        for (String call : calls) {
+            long due = Run.town(town).answer(call);
+            for (String text : faulty) {
+                Run.town(town).types(text).due("town()", -10 - text.length() + (text.endsWith("x") ? 1 : 0)).due(call, due);
+            }
+        }
+    }
 }

@@ -88,7 +88,8 @@ public final class P04TownTest {
         Run.town(EIGHT).due("count(1)", 8).due("anchor(7, 0)", 0).due("anchor(8, 0)", Run.BAD).due("now(0)", 255);
     }
 
-    @Says({"CELL, WEIGHT (1 .. 9), LINKS (1 .. 60), WORTH (0 .. 99)", "a O X W L V (the next ANCHOR of a RAFT told ahead:"})
+    @Says({"ANCHORS 0 .. (8 at most): OWNER (a RAFT), CELL, WEIGHT (1 .. 9), LINKS (1 .. 60), WORTH (0 .. 99).",
+        "a O X W L V (the next ANCHOR of a RAFT told ahead:"})
     static void theLeastAndMostOfAnAnchor() {
         Run x = Run.town("r0;r0;a0 0 1 1 0;a1 9 9 60 99;a0 9 1 60 0;a1 0 9 1 99;");
         x.row("anchor(0, *)", 0, 0, 1, 1, 0).row("anchor(1, *)", 1, 9, 9, 60, 99);

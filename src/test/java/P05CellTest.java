@@ -29,4 +29,17 @@ public final class P05CellTest {
     static void whatFrom0To2() {
         new Run().stays(Run.BAD, "cell(0, -1)", "cell(0, 3)", "cell(9, 3)", "cell(0, 2147483647)", "cell(0, -2147483648)");
     }
+
+    @Says({"CELLS 0 ..", "9 lie in a row:"})
+    static void tenCellsInARow() {
+        Run x = Run.town("r0;a0 0 1 1 1;");
+        for (int cell = 0; cell < 9; cell++) {
+            x.due("cell(" + cell + ", 2)", 1).due("cell(" + (cell + 1) + ", 2)", 0).does("storms(3, 1)");
+            x.due("cell(" + cell + ", 2)", 0).due("cell(" + (cell + 1) + ", 2)", 1);
+        }
+        for (int cell = 9; cell > 0; cell--) {
+            x.does("storms(3, 0)").due("cell(" + cell + ", 2)", 0).due("cell(" + (cell - 1) + ", 2)", 1);
+        }
+        x.due("storms(3, 0)", 1).due("cell(0, 2)", 0);
+    }
 }

@@ -31,7 +31,7 @@ public final class P06RaftTest {
         Run.town(TOWN).does("dies(3)").due("raft(3, 1)", 1).due("raft(0, 1)", 0).does("undo()").due("raft(3, 1)", 0);
     }
 
-    @Says("WORTH less AGE (0 at least each)")
+    @Says("ESTATE of a RAFT: WORTH less AGE (0 at least each)")
     static void estateIs0AtLeastEach() {
         Run x = Run.town("r0;a0 1 1 1 2;a0 2 1 1 1;a0 3 1 1 0;a0 4 1 1 4;").due("raft(0, 3)", 7);
         x.does("year()").due("raft(0, 3)", 1 + 0 + 0 + 3).does("year()").due("raft(0, 3)", 2);
@@ -45,7 +45,7 @@ public final class P06RaftTest {
         Run.town("r0;a0 9 1 1 50;a0 0 1 1 9;").does("storms(99, 1)").due("raft(0, 3)", 9);
     }
 
-    @Says("RAFTS (bits) that are roped to it, over others, too, it itself")
+    @Says("TOWN of a RAFT: RAFTS (bits) that are roped to it, over others, too, it itself")
     static void townOverOthers() {
         Run x = Run.town("r0;r0;r0;r0;r0;r0;t0 5;t5 1;t1 4;t4 2;t2 3;");
         for (int r = 0; r < 6; r++) {
@@ -86,5 +86,12 @@ public final class P06RaftTest {
             x.due("hauls(0, " + a + ")", 99 * (a + 1));
         }
         x.due("raft(0, 2)", 792).due("now(4)", 792);
+    }
+
+    @Says("RAFTS 0 .. (6 at most): NEXT (a RAFT; itself: none).")
+    static void nextIsARaftOrItselfForNone() {
+        Run x = Run.town("r0;r1;r1;a0 1 1 1 1;a1 2 1 1 2;a2 3 1 1 4;").row("raft(*, 0)", 0, 1, 1).row("raft(*, 3)", 1, 2, 4);
+        x.does("dies(2)").row("raft(*, 3)", 1, 6, 0).does("dies(1)").row("raft(*, 3)", 1, 0, 0);
+        x.row("anchor(*, 8)", 0, Run.NONE, Run.NONE).row("raft(*, 0)", 0, 1, 1);
     }
 }

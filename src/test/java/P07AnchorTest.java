@@ -54,7 +54,7 @@ public final class P07AnchorTest {
         y.due("anchor(0, 7)", Run.NONE);
     }
 
-    @Says("WEIGHT times (GRIP of its CELL and 1), and LINKS by DEEP (cut)")
+    @Says("STRENGTH of an ANCHOR: WEIGHT times (GRIP of its CELL and 1), and LINKS by DEEP (cut)")
     static void strengthIsCut() {
         Run x = Run.town("c0 9 0;c1 7 0;c2 1 3;c3 2 1;r0;a0 0 1 8 0;a0 1 1 60 0;a0 2 9 60 0;a0 3 4 5 0;");
         x.due("anchor(0, 7)", 1).due("anchor(1, 7)", 1 + 8).due("anchor(2, 7)", 36 + 60).due("anchor(3, 7)", 8 + 2);

@@ -109,4 +109,9 @@ public final class P08StormsTest {
     static void aStormThatAllHoldMayBeUndone() {
         Run.town("r0;a0 5 9 1 0;").due("storms(1, 0)", 0).due("count(4)", 1).due("undo()", 0);
     }
+
+    @Says("BAD.")
+    static void badOfBoth() {
+        new Run().stays(Run.BAD, "storms(0, 2)", "storms(100, -1)", "storms(0, 0)", "storms(1, 2)").due("storms(1, 0)", 0);
+    }
 }

@@ -6,7 +6,7 @@ public final class P09PaysTest {
         Check.all(P09PaysTest.class);
     }
 
-    @Says("LINKS of one that LIES are n more or less (-9 .. 9, not 0; 1 .. 60)")
+    @Says({"PAID: LINKS of one that LIES are n more or less (-9 .. 9, not 0; 1 .. 60).", "PAID: LINKS then."})
     static void nMoreOrLess() {
         Run x = Run.town(TOWN).due("pays(0, 9)", 39).due("pays(0, -9)", 30).due("pays(0, 1)", 31).due("pays(0, -1)", 30);
         x.due("pays(0, 5)", 35).due("anchor(0, 3)", 35).due("anchor(1, 3)", 1).due("count(4)", 5);

@@ -20,7 +20,7 @@ public final class P13HaulsTest {
         x.due("hauls(0, 3)", 1).due("hauls(0, 2)", 1).due("hauls(0, 1)", 1).due("hauls(0, 0)", 1).due("raft(0, 2)", 1);
     }
 
-    @Says("an ANCHOR that LIES and is its own by WHOSE")
+    @Says("HAULED by a RAFT: an ANCHOR that LIES and is its own by WHOSE,")
     static void oneThatDoesNotLie() {
         Run.town(TOWN).due("hauls(0, 4)", 6).stays(Run.STATE, "hauls(0, 4)").due("raft(0, 2)", 6);
         Run.town("r0;a0 0 1 1 9;").due("storms(9, 0)", 1).stays(Run.STATE, "hauls(0, 0)").due("raft(0, 2)", 0);
@@ -80,5 +80,13 @@ public final class P13HaulsTest {
     static void badIsAheadOfState() {
         Run.town(TOWN).does("hauls(0, 4)").stays(Run.BAD, "hauls(3, 4)", "hauls(-1, 4)", "hauls(-9, 4)", "hauls(3, 0)");
         Run.town("r0;a0 4 1 1 9;").does("dies(0)").stays(Run.BAD, "hauls(-9, 0)", "hauls(1, 0)", "hauls(0, 1)");
+    }
+
+    @Says("BAD; STATE: it does not LIE, is not the RAFT's, another one's LIES there, too.")
+    static void eachStateAloneAndNone() {
+        Run.town("r0;r0;a0 1 1 1 9;").does("storms(9, 1)").due("hauls(0, 0)", 9).stays(Run.STATE, "hauls(0, 0)");
+        Run.town("r0;r0;a0 1 1 1 9;a1 2 1 1 8;").stays(Run.STATE, "hauls(1, 0)", "hauls(0, 1)").due("hauls(1, 1)", 8);
+        Run.town("r0;r0;a0 1 1 1 9;a1 2 9 1 8;").due("hauls(0, 0)", 9).due("undo()", 0).does("storms(9, 1)")
+            .due("cell(2, 2)", 3).stays(Run.STATE, "hauls(0, 0)", "hauls(1, 1)");
     }
 }

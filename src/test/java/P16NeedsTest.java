@@ -18,7 +18,7 @@ public final class P16NeedsTest {
         Run.town(TOWN).due("needs(1, 1)", 1).due("needs(1, 8)", 1).due("needs(1, 9)", 1).due("needs(1, 10)", 2);
     }
 
-    @Says("the fewest LINKS (1 .. 60)")
+    @Says("the fewest LINKS (1 .. 60) by which its STRENGTH there would be f or more; NONE.")
     static void sixtyLinksAtMost() {
         Run.town(TOWN).due("needs(1, 67)", 59).due("needs(1, 68)", 60).due("needs(1, 69)", Run.NONE).due("needs(1, 99)", Run.NONE);
         Run.town(TOWN).due("needs(0, 7)", 54).due("needs(0, 8)", Run.NONE).due("needs(3, 22)", 60).due("needs(3, 23)", Run.NONE);

@@ -21,7 +21,7 @@ public final class P18WreckTest {
         Run.town("r0;a0 0 1 1 0;").does("storms(99, 0)").due("wreck(99, 0, 0)", 0).due("wreck(99, 0, 1)", 0);
     }
 
-    @Says("that by which most ANCHORS are LOST")
+    @Says({"that by which most ANCHORS are LOST", "WRECK: how many (what = 0), the sides (1)."})
     static void mostAreLost() {
         Run.town("r0;a0 9 1 1 0;a0 9 1 1 0;a0 0 1 1 0;").due("wreck(9, 1, 0)", 2).due("wreck(9, 1, 1)", 1);
         Run.town("r0;a0 9 1 1 0;a0 0 1 1 0;a0 0 1 1 0;").due("wreck(9, 1, 0)", 2).due("wreck(9, 1, 1)", 0);
@@ -51,7 +51,7 @@ public final class P18WreckTest {
         Run.town("r0;a0 1 1 1 0;").due("wreck(9, 3, 1)", 0).due("wreck(9, 4, 1)", 0);
     }
 
-    @Says("the sides (bits, bit k for the k-th STORM)")
+    @Says("how many; the sides (bits, bit k for the k-th STORM).")
     static void sidesAsBits() {
         Run x = Run.town(ENDS).due("wreck(9, 1, 1)", 0).due("wreck(9, 4, 0)", 2).due("wreck(9, 4, 1)", 0b1110);
         x.does("storms(9, 0)").due("now(2)", 1).due("wreck(9, 3, 0)", 1).due("wreck(9, 3, 1)", 0b111);

@@ -7,7 +7,7 @@ public final class P19PlaceTest {
         Check.all(P19PlaceTest.class);
     }
 
-    @Says("the first (ANCHOR by ANCHOR, the lowest CELL): the CELL of one of them")
+    @Says({"the first (ANCHOR by ANCHOR, the lowest CELL): the CELL of one of them", "PLACE; NONE."})
     static void theFirstWay() {
         Run.town(TOWN).due("place(7, 5, 0)", 0).due("place(7, 5, 1)", 1).due("place(7, 5, 2)", 2);
         Run.town(TOWN).due("place(4, 13, 2)", 2).due("place(1, 13, 0)", 6).due("place(5, 13, 0)", 2).due("place(5, 13, 2)", 6);
@@ -120,5 +120,13 @@ public final class P19PlaceTest {
     @Says("(Nothing is changed.)")
     static void nothingIsChanged() {
         Run.town(TOWN).does("year()", "hears(1, 1)").stays(2, "place(5, 13, 0)").stays(Run.NONE, "place(7, 13, 0)");
+    }
+
+    @Says("none where one LIES that is not of the set")
+    static void noneWhereAnotherLiesInEachCell() {
+        for (int cell = 0; cell < 10; cell++) {
+            Run x = Run.town("c" + cell + " 1 3;r0;a0 " + cell + " 1 9 0;a0 " + (9 - cell) + " 1 9 0;").due("place(2, 13, 1)", Run.NONE);
+            x.due("place(3, 13, 1)", Run.NONE).does("hauls(0, 0)").due("place(2, 13, 1)", cell).due("place(2, 5, 1)", 0);
+        }
     }
 }

@@ -8,7 +8,7 @@ public final class P20VitalTest {
         Check.all(P20VitalTest.class);
     }
 
-    @Says("each of which, were it LOST alone, brings MIGHT of its TOWN from f or more to less than f")
+    @Says({"each of which, were it LOST alone, brings MIGHT of its TOWN from f or more to less than f", "VITAL, as bits. BAD."})
     static void mightThatIsJustFAndOneLess() {
         Run.town(TOWN).due("raft(0, 5)", 47).due("vital(0, 47)", 7).due("vital(1, 47)", 7).due("vital(0, 48)", 0)
             .due("vital(0, 49)", 0).due("vital(0, 99)", 0);

@@ -11,7 +11,8 @@ public final class P21OddsTest {
         x.due("odds(" + of + ", 0)", upper).due("odds(" + of + ", 1)", lower);
     }
 
-    @Says("f is each of 1 .. m as likely in each of n STORMS, each for itself: that all are HOLD or less: a fraction")
+    @Says({"f is each of 1 .. m as likely in each of n STORMS, each for itself: that all are HOLD or less: a fraction",
+        "ODDS: upper (what = 0), lower number (1), in least terms."})
     static void aFractionInLeastTerms() {
         odds(Run.town(TOWN), "0, 10, 1", 1, 5);
         odds(Run.town(TOWN), "0, 10, 3", 1, 125);

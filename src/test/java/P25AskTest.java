@@ -7,7 +7,7 @@ public final class P25AskTest {
         Check.all(P25AskTest.class);
     }
 
-    @Says("the f (1 .. 99) by which the greater part of these, that would hold it or that would not, is least")
+    @Says("ASK: the f (1 .. 99) by which the greater part of these, that would hold it or that would not, is least")
     static void theGreaterPartIsLeast() {
         Run.town("r0;a0 0 1 3 0;a0 0 2 3 0;a0 0 4 3 0;a0 0 6 3 0;").due("ask()", 6);
         Run.town("r0;a0 0 1 3 0;a0 0 1 3 0;a0 0 1 3 0;a0 0 2 3 0;a0 0 6 3 0;").due("ask()", 4);

@@ -7,7 +7,8 @@ public final class P26MarkTest {
         Check.all(P26MarkTest.class);
     }
 
-    @Says("KINDS of ANCHORS are over one another: 0 RING; 1 KEDGE, 2 STONE, 5 BED (each under RING); 3 GRAPNEL (under KEDGE);")
+    @Says({"KINDS of ANCHORS are over one another: 0 RING; 1 KEDGE, 2 STONE, 5 BED (each under RING); 3 GRAPNEL (under KEDGE);"
+        + " 4 BELL (under STONE).", "MARK of an ANCHOR as if of a KIND"})
     static void eachKind() {
         Run x = Run.town(TOWN).does("year()", "year()").row("mark(*, 0)", 14, 34, 12, 68, 12, 14);
         x.row("mark(*, 1)", 4, 34, 2, 68, 3, 4);
@@ -63,5 +64,11 @@ public final class P26MarkTest {
     static void theFirstAndTheLastAnchor() {
         Run.town(TOWN).stays(Run.NO, "mark(0, -1)", "mark(0, 2)", "mark(5, 2)", "mark(4, 7)", "mark(3, 8)", "mark(0, 2147483647)");
         new Run().stays(Run.NO, "mark(0, 0)");
+    }
+
+    @Says("KEDGE up, and its WORTH (10).")
+    static void itsWorthWhateverItsAge() {
+        Run x = Run.town("r0;a0 5 1 3 0;a0 5 1 3 99;a0 5 1 3 1;").row("mark(1, *)", 3, 102, 4).row("mark(3, *)", 6, 204, 8);
+        x.does("year()", "year()", "hauls(0, 1)").row("mark(1, *)", 3, 102, 4).row("mark(3, *)", 6, 204, 8);
     }
 }

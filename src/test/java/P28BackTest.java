@@ -6,7 +6,8 @@ public final class P28BackTest {
         Check.all(P28BackTest.class);
     }
 
-    @Says("IMAGES 0, 1 keep NOW (CELLS of ANCHORS, LINKS, AGES, what LIES, is UP, LOST, GONE, NEXT, WEALTH, what may be UNDONE)")
+    @Says({"IMAGES 0, 1 keep NOW (CELLS of ANCHORS, LINKS, AGES, what LIES, is UP, LOST, GONE, NEXT, WEALTH, what may be UNDONE)",
+        "All of that becomes as an IMAGE has it: what LIES (bits)."})
     static void allOfThatBecomesAsTheImageHasIt() {
         Run x = Run.town(TOWN).due("keep(1)", 7).does("storms(99, 1)", "pays(0, 9)", "year()", "hauls(1, 2)", "wills(0, 1)", "dies(0)");
         x.due("keep(0)", 1).due("back(1)", 7);

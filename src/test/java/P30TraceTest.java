@@ -6,7 +6,8 @@ public final class P30TraceTest {
         Check.all(P30TraceTest.class);
     }
 
-    @Says({"as often as mark() asks that body", "\"up\" is what the KIND above does, asked once"})
+    @Says({"(numbers in brackets come to THE TRACE (0 at first; of all calls ever, together) as often as mark() asks that body;",
+        "\"up\" is what the KIND above does, asked once"})
     static void theBodiesOfEachKind() {
         long[] leaves = {1, 11, 101, 1011, 10101, 100001};
         for (int kind = 0; kind < 6; kind++) {
@@ -14,7 +15,7 @@ public final class P30TraceTest {
         }
     }
 
-    @Says("(0 at first; of all calls ever, together)")
+    @Says({"(0 at first; of all calls ever, together)", "THE TRACE."})
     static void ofAllCallsTogether() {
         Run x = Run.town(TOWN).due("trace()", 0).does("mark(0, 0)").due("trace()", 1).does("mark(0, 0)").due("trace()", 2);
         x.does("mark(4, 1)", "mark(3, 0)").due("trace()", 2 + 10101 + 1011).does(300, "mark(5, 1)");
