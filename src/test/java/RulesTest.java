@@ -157,10 +157,17 @@ public final class RulesTest {
             long first = lines.getLineNumber(positions.getStartPosition(unit, tree));
             long last = lines.getLineNumber(positions.getEndPosition(unit, tree));
             rule(11, method + " is too long", last - first < LINES, tree);
-            calls.put(fullName, new TreeSet<>());
+            calls.computeIfAbsent(fullName, name -> new TreeSet<>());
             super.visitMethod(tree, nothing);
             method = "";
+            fullName = "";
             return null;
+        }
+
+        /** What stands in no method stands in a field, which the constructor of its class makes. */
+        private String maker(String name) {
+            Tree parent = getCurrentPath().getParentPath().getParentPath().getLeaf();
+            return !name.isEmpty() ? name : (parent instanceof ClassTree of ? of.getSimpleName() : "") + ".<init>";
         }
 
         private static String fullName(Element of) {
@@ -172,7 +179,7 @@ public final class RulesTest {
             String called = fullName(trees.getElement(getCurrentPath()));
             boolean isOwn = classes.contains(called.substring(0, called.indexOf('.')));
             rule(4, "a call of the library: " + called, isOwn || LIBRARY.contains(called), tree);
-            calls.get(fullName).add(called);
+            calls.computeIfAbsent(maker(fullName), name -> new TreeSet<>()).add(called);
             return super.visitMethodInvocation(tree, nothing);
         }
 
@@ -190,7 +197,7 @@ public final class RulesTest {
             rule(2, "no class without a name", tree.getClassBody() == null, tree);
             String made = fullName(trees.getElement(getCurrentPath()));
             rule(4, "an object of the library: " + made, classes.contains(made.substring(0, made.indexOf('.'))), tree);
-            calls.computeIfAbsent(fullName, name -> new TreeSet<>()).add(made);
+            calls.computeIfAbsent(maker(fullName), name -> new TreeSet<>()).add(made);
             return super.visitNewClass(tree, nothing);
         }
 
